@@ -533,6 +533,18 @@ public final class NearLiarsPromises {
         one3.ticks(100);
         bands(one3, new int[][] {{3, 3, 0, 2}});
         due("band(1, 0)", one3.band(1, 0), OUTSIDE);
+
+        // NODE 0 is misled by 1 ahead of the DEALER's word, which would have to pass 1.
+        NearLiars last = line(3);
+        last.dealer(2, 0);
+        last.lie(1, 3);
+        last.ticks(6);
+        bands(last, new int[][] {{2, 1, 1, 2}});
+        due("many(6)", last.many(6), 1);
+        last.lie(1, NONE);
+        last.lie(0, 2);
+        due("many(2)", last.many(2), 1);
+        due("band(0, 0)", last.band(0, 0), 2);
     }
 
     private static void bands(NearLiars x, int[][] want) {
@@ -860,7 +872,8 @@ public final class NearLiarsPromises {
         due("walk(2)", x.walk(2), STATE);
         due("walk(0)", x.walk(0), 1);
         due("walk(2)", x.walk(2), 2);
-        x.tell(1);
+        due("tell(1)", x.tell(1), 1);
+        due("claim(0, 2)", x.claim(0, 2), 5);
         due("drop()", x.drop(), 0);
         due("many(8)", x.many(8), 1);
     }
@@ -969,6 +982,9 @@ public final class NearLiarsPromises {
         due("two against, believes(5)", x.believes(5), NONE);
         telling(x, 1, 0, 4, 5);
         due("a third value with one, believes(5)", x.believes(5), NONE);
+        x.need(1);
+        due("two against two, one is enough, believes(5)", x.believes(5), NONE);
+        x.need(2);
         telling(x, 0, 0, 5);
         due("three against two, believes(5)", x.believes(5), 0);
         x.need(3);
@@ -977,6 +993,8 @@ public final class NearLiarsPromises {
         due("three of four, believes(5)", x.believes(5), NONE);
         x.need(1);
         due("believes(4)", x.believes(4), NONE);
+        telling(x, 2, 0, 4);
+        due("one of one, believes(4)", x.believes(4), 2);
         due("the DEALER, believes(0)", x.believes(0), NONE);
         int[] bad = {-1, 6, MIN, MAX};
         for (int n : bad) {

@@ -47,48 +47,12 @@ public final class NearLiarsPromises {
         }
     }
 
-    // ---- nets that several tests use
-
-    /** 0 - 1 - .. - n-1. */
-    private static NearLiars line(int n) {
-        NearLiars x = new NearLiars();
-        x.net(n);
-        for (int i = 1; i < n; i++) {
-            x.edge(i - 1, i, 1);
-        }
-        return x;
-    }
-
-    /** The DEALER 0 at one end, 1 2 3 beside one another (no NEIGHBOURS), 4 at the other end. */
-    private static NearLiars three() {
-        NearLiars x = new NearLiars();
-        x.net(5);
-        for (int i = 1; i <= 3; i++) {
-            x.edge(0, i, 1);
-            x.edge(i, 4, 1);
-        }
-        return x;
-    }
-
-    private static int along(NearLiars x, int... way) {
-        int last = 0;
-        for (int n : way) {
-            last = x.walk(n);
-        }
-        return last;
-    }
-
-    private static int telling(NearLiars x, int v, int... way) {
-        along(x, way);
-        return x.tell(v);
-    }
-
     /** A RUN, a NAMED CUT, a WAY in hand and a CLAIM, to see what a call leaves of them. */
     private static NearLiars busy() {
-        NearLiars x = line(3);
+        NearLiars x = Nets.line(3);
         x.need(2);
         x.name(0);
-        telling(x, 1, 0, 1);
+        Nets.telling(x, 1, 0, 1);
         x.walk(0);
         x.ticks(4);
         return x;
@@ -238,7 +202,7 @@ public final class NearLiarsPromises {
 
     private static void neighbours() {
         promise = 5;
-        NearLiars x = line(12);
+        NearLiars x = Nets.line(12);
         due("neighbours(0)", x.neighbours(0), 2);
         due("neighbours(5)", x.neighbours(5), 16 + 64);
         due("neighbours(11)", x.neighbours(11), 1 << 10);
@@ -250,7 +214,7 @@ public final class NearLiarsPromises {
 
     private static void dealer() {
         promise = 6;
-        NearLiars x = line(3);
+        NearLiars x = Nets.line(3);
         x.need(2);
         x.lie(2, 1);
         due("dealer(2, 3)", x.dealer(2, 3), 0);
@@ -292,7 +256,7 @@ public final class NearLiarsPromises {
         due("need(1)", x.need(1), 1);
         due("many(4)", x.many(4), 0);
 
-        x = three();
+        x = Nets.three();
         x.need(3);
         due("ticks(100)", x.ticks(100), 4);
         x.need(4);
@@ -302,7 +266,7 @@ public final class NearLiarsPromises {
 
     private static void lie() {
         promise = 8;
-        NearLiars x = line(3);
+        NearLiars x = Nets.line(3);
         for (int v = 0; v <= 4; v++) {
             due("lie(1, " + v + ")", x.lie(1, v), v == 0 ? NONE : v - 1);
         }
@@ -349,7 +313,7 @@ public final class NearLiarsPromises {
 
     private static void ticks() {
         promise = 10;
-        NearLiars x = line(3);
+        NearLiars x = Nets.line(3);
         due("ticks(0)", x.ticks(0), 0);
         due("many(4)", x.many(4), 0);
         int[] bad = {-1, 101, MIN, MAX};
@@ -372,7 +336,7 @@ public final class NearLiarsPromises {
         due("node(0, 1)", x.node(0, 1), 1);
 
         // What the DEALER says is taken at once, whatever others have said before.
-        x = three();
+        x = Nets.three();
         x.dealer(4, 3);
         x.need(2);
         x.lie(1, 0);
@@ -386,7 +350,7 @@ public final class NearLiarsPromises {
         due("node(1, 4)", x.node(1, 4), 1);
 
         // Two that lie alike are believed, if two are needed; the first value with two is kept.
-        x = three();
+        x = Nets.three();
         x.need(2);
         x.lie(1, 2);
         x.lie(2, 2);
@@ -403,7 +367,7 @@ public final class NearLiarsPromises {
         due("node(4, 1)", x.node(4, 1), 0);
 
         // The lie of 0 comes first to 1, but the DEALER's word is enough by itself.
-        x = line(3);
+        x = Nets.line(3);
         x.need(3);
         x.dealer(2, 1);
         x.lie(0, 3);
@@ -423,7 +387,7 @@ public final class NearLiarsPromises {
 
     private static void node() {
         promise = 11;
-        NearLiars x = line(3);
+        NearLiars x = Nets.line(3);
         x.dealer(0, 2);
         int[] before = {1, NONE, NONE, 0, 0};
         for (int i = 0; i < 5; i++) {
@@ -461,7 +425,7 @@ public final class NearLiarsPromises {
     /** SLOTS and ROUND: those of NEIGHBOURS and of NODES with a NEIGHBOUR in common differ. */
     private static void slots() {
         promise = 11;
-        NearLiars x = line(7);
+        NearLiars x = Nets.line(7);
         int[] ofLine = {0, 1, 2, 0, 1, 2, 0};
         for (int i = 0; i < 7; i++) {
             due("line, node(" + i + ", 0)", x.node(i, 0), ofLine[i]);
@@ -529,13 +493,13 @@ public final class NearLiarsPromises {
         for (int y : none) {
             due("band(" + y + ", 0)", x.band(y, 0), OUTSIDE);
         }
-        NearLiars one3 = line(3);
+        NearLiars one3 = Nets.line(3);
         one3.ticks(100);
         bands(one3, new int[][] {{3, 3, 0, 2}});
         due("band(1, 0)", one3.band(1, 0), OUTSIDE);
 
         // NODE 0 is misled by 1 ahead of the DEALER's word, which would have to pass 1.
-        NearLiars last = line(3);
+        NearLiars last = Nets.line(3);
         last.dealer(2, 0);
         last.lie(1, 3);
         last.ticks(6);
@@ -579,7 +543,7 @@ public final class NearLiarsPromises {
 
     private static void sort() {
         promise = 13;
-        NearLiars x = three();
+        NearLiars x = Nets.three();
         x.need(2);
         due("sort(0)", x.sort(0), 2);
         due("sort(2)", x.sort(2), 2);
@@ -607,7 +571,7 @@ public final class NearLiarsPromises {
 
     private static void crowded() {
         promise = 14;
-        NearLiars x = three();
+        NearLiars x = Nets.three();
         x.need(2);
         due("crowded(0)", x.crowded(0), NONE);
         due("crowded(6)", x.crowded(6), 0);
@@ -625,7 +589,7 @@ public final class NearLiarsPromises {
 
     private static void reached() {
         promise = 15;
-        NearLiars x = three();
+        NearLiars x = Nets.three();
         due("reached(0)", x.reached(0), 31);
         due("reached(14)", x.reached(14), 1);
         due("reached(6)", x.reached(6), 25);
@@ -636,7 +600,7 @@ public final class NearLiarsPromises {
         x.need(4);
         due("reached(0)", x.reached(0), 15);
         badSets(x, "reached");
-        x = line(12);
+        x = Nets.line(12);
         x.dealer(11, 0);
         due("reached(0)", x.reached(0), 4095);
         due("reached(1)", x.reached(1), 4094);
@@ -647,7 +611,7 @@ public final class NearLiarsPromises {
 
     private static void worst() {
         promise = 16;
-        NearLiars x = three();
+        NearLiars x = Nets.three();
         // NEED 1: only the empty set is THIN, as all hang together.
         worsts(x, 0, 0, 1, 0);
         // NEED 2: 4 and one of 1 2 3 at most, or none: 8 sets; two of three reach 4.
@@ -677,7 +641,7 @@ public final class NearLiarsPromises {
         due("worst(0)", x.worst(0), 0);
         due("worst(1)", x.worst(1), 28);
         // Two ways of like length: more NODES cut off go ahead of fewer in the set.
-        x = line(4);
+        x = Nets.line(4);
         x.dealer(1, 0);
         x.need(2);
         due("worst(0)", x.worst(0), 0);
@@ -705,7 +669,7 @@ public final class NearLiarsPromises {
 
     private static void bears() {
         promise = 17;
-        NearLiars x = three();
+        NearLiars x = Nets.three();
         x.need(5);
         due("bears()", x.bears(), 2);
         due("need(5)", x.need(5), 5);
@@ -713,7 +677,7 @@ public final class NearLiarsPromises {
         due("all beside the DEALER, bears()", x.bears(), 6);
         x.net(2);
         due("nobody beside the DEALER, bears()", x.bears(), NONE);
-        x = line(12);
+        x = Nets.line(12);
         due("a line, bears()", x.bears(), 1);
         x.edge(10, 11, 0);
         due("a broken line, bears()", x.bears(), NONE);
@@ -734,7 +698,7 @@ public final class NearLiarsPromises {
 
     private static void name() {
         promise = 18;
-        NearLiars x = three();
+        NearLiars x = Nets.three();
         x.need(3);
         due("name(0)", x.name(0), STATE);
         due("name(30)", x.name(30), STATE);
@@ -746,7 +710,7 @@ public final class NearLiarsPromises {
         badSets(x, "name");
         due("many(7)", x.many(7), 1);
 
-        x = line(12);
+        x = Nets.line(12);
         for (int i = 1; i <= 6; i++) {
             // With i in the set all NODES behind it are cut off.
             due("name(" + (1 << i) + ")", x.name(1 << i), i - 1);
@@ -793,7 +757,7 @@ public final class NearLiarsPromises {
 
     private static void walk() {
         promise = 20;
-        NearLiars x = three();
+        NearLiars x = Nets.three();
         due("walk(1)", x.walk(1), STATE);
         due("walk(0)", x.walk(0), 1);
         due("walk(0)", x.walk(0), STATE);
@@ -814,7 +778,7 @@ public final class NearLiarsPromises {
         due("walk(0)", x.walk(0), STATE);
         due("walk(4)", x.walk(4), 1);
         due("begin keeps it, many(9)", x.begin() + x.many(9), 1);
-        x = line(12);
+        x = Nets.line(12);
         for (int i = 0; i < 12; i++) {
             due("walk(" + i + ")", x.walk(i), i + 1);
         }
@@ -825,7 +789,7 @@ public final class NearLiarsPromises {
 
     private static void tell() {
         promise = 21;
-        NearLiars x = three();
+        NearLiars x = Nets.three();
         due("tell(0)", x.tell(0), STATE);
         due("tell(4)", x.tell(4), OUTSIDE);
         x.walk(0);
@@ -839,23 +803,23 @@ public final class NearLiarsPromises {
         due("many(9)", x.many(9), 2);
         due("tell(3)", x.tell(3), 1);
         due("many(9)", x.many(9), 0);
-        due("the same, tell(3)", telling(x, 3, 0, 1), STATE);
+        due("the same, tell(3)", Nets.telling(x, 3, 0, 1), STATE);
         due("many(9)", x.many(9), 2);
         due("another value, tell(2)", x.tell(2), 2);
-        due("further, tell(3)", telling(x, 3, 0, 1, 4), 3);
+        due("further, tell(3)", Nets.telling(x, 3, 0, 1, 4), 3);
         x.edge(1, 2, 1);
-        telling(x, 0, 0, 1, 2, 4);
-        due("the same NODES in another row, tell(0)", telling(x, 0, 0, 2, 1, 4), 2);
+        Nets.telling(x, 0, 0, 1, 2, 4);
+        due("the same NODES in another row, tell(0)", Nets.telling(x, 0, 0, 2, 1, 4), 2);
 
         for (int i = 0; i < 6; i++) {
-            due("more of them", telling(x, i % 3 + 1, i < 3 ? new int[] {0, 1} : new int[] {0, 2}), 3 + i);
+            due("more of them", Nets.telling(x, i % 3 + 1, i < 3 ? new int[] {0, 1} : new int[] {0, 2}), 3 + i);
         }
-        due("the oldest is there still, tell(0)", telling(x, 0, 0, 1, 2, 4), STATE);
+        due("the oldest is there still, tell(0)", Nets.telling(x, 0, 0, 1, 2, 4), STATE);
         x.drop();
-        due("a ninth, tell(1)", telling(x, 1, 0, 3), 8);
+        due("a ninth, tell(1)", Nets.telling(x, 1, 0, 3), 8);
         due("claim(7, 2)", x.claim(7, 2), 9);
         due("claim(0, 11)", x.claim(0, 11), 2);
-        due("the oldest is gone, tell(0)", telling(x, 0, 0, 1, 2, 4), 8);
+        due("the oldest is gone, tell(0)", Nets.telling(x, 0, 0, 1, 2, 4), 8);
         due("claim(7, 13)", x.claim(7, 13), 4);
         due("claim(0, 1)", x.claim(0, 1), 2);
         due("many(8)", x.many(8), 8);
@@ -863,9 +827,9 @@ public final class NearLiarsPromises {
 
     private static void drop() {
         promise = 22;
-        NearLiars x = three();
+        NearLiars x = Nets.three();
         due("drop()", x.drop(), 0);
-        along(x, 0, 2, 4);
+        Nets.along(x, 0, 2, 4);
         due("drop()", x.drop(), 3);
         due("many(9)", x.many(9), 0);
         due("drop()", x.drop(), 0);
@@ -880,10 +844,10 @@ public final class NearLiarsPromises {
 
     private static void claim() {
         promise = 23;
-        NearLiars x = line(12);
+        NearLiars x = Nets.line(12);
         due("claim(0, 0)", x.claim(0, 0), OUTSIDE);
-        telling(x, 2, 0, 1, 2);
-        telling(x, 3, 0, 1, 2, 3, 4, 5, 6, 7, 8, 9, 10, 11);
+        Nets.telling(x, 2, 0, 1, 2);
+        Nets.telling(x, 3, 0, 1, 2, 3, 4, 5, 6, 7, 8, 9, 10, 11);
         due("claim(0, 0)", x.claim(0, 0), 2);
         due("claim(0, 1)", x.claim(0, 1), 3);
         due("claim(0, 2)", x.claim(0, 2), 7);
@@ -918,26 +882,26 @@ public final class NearLiarsPromises {
         x.grid(3, 2, 2);
         // All are NEIGHBOURS of all: any row of NODES from 0 is a WAY.
         due("proof(5, 1)", x.proof(5, 1), 0);
-        telling(x, 1, 0, 1, 2, 5);
+        Nets.telling(x, 1, 0, 1, 2, 5);
         due("proof(5, 1)", x.proof(5, 1), 1);
-        telling(x, 1, 0, 2, 3, 5);
-        telling(x, 1, 0, 3, 4, 5);
+        Nets.telling(x, 1, 0, 2, 3, 5);
+        Nets.telling(x, 1, 0, 3, 4, 5);
         due("1 2, 2 3, 3 4: proof(5, 1)", x.proof(5, 1), 2);
-        telling(x, 1, 0, 1, 5);
-        telling(x, 1, 0, 4, 5);
+        Nets.telling(x, 1, 0, 1, 5);
+        Nets.telling(x, 1, 0, 4, 5);
         due("1 2, 2 3, 3 4, 1, 4: proof(5, 1)", x.proof(5, 1), 3);
-        telling(x, 1, 0, 5);
+        Nets.telling(x, 1, 0, 5);
         due("and the straight one: proof(5, 1)", x.proof(5, 1), 4);
         due("another value, proof(5, 2)", x.proof(5, 2), 0);
         due("not the end, proof(2, 1)", x.proof(2, 1), 0);
         due("the DEALER, proof(0, 1)", x.proof(0, 1), 0);
-        telling(x, 2, 0, 5, 4);
+        Nets.telling(x, 2, 0, 5, 4);
         due("proof(4, 2)", x.proof(4, 2), 1);
-        telling(x, 2, 0, 1, 5, 3, 4);
+        Nets.telling(x, 2, 0, 1, 5, 3, 4);
         due("5 in common, proof(4, 2)", x.proof(4, 2), 1);
         // A ninth and a tenth drive out 1 2 and 2 3.
-        telling(x, 2, 0, 4);
-        telling(x, 2, 0, 2, 4);
+        Nets.telling(x, 2, 0, 4);
+        Nets.telling(x, 2, 0, 2, 4);
         due("proof(4, 2)", x.proof(4, 2), 3);
         due("3 4, 1, 4, straight: proof(5, 1)", x.proof(5, 1), 3);
         due("proof(6, 9)", x.proof(6, 9), UNKNOWN);
@@ -950,17 +914,17 @@ public final class NearLiarsPromises {
 
         // The same three in two rows share them.
         x.dealer(2, 0);
-        telling(x, 0, 2, 0, 1, 5);
-        telling(x, 0, 2, 1, 0, 5);
+        Nets.telling(x, 0, 2, 0, 1, 5);
+        Nets.telling(x, 0, 2, 1, 0, 5);
         due("proof(5, 0)", x.proof(5, 0), 1);
         x.net(10);
         for (int i = 1; i <= 8; i++) {
             x.edge(0, i, 1);
             x.edge(i, 9, 1);
-            telling(x, 3, 0);
+            Nets.telling(x, 3, 0);
         }
         for (int i = 1; i <= 8; i++) {
-            telling(x, 3, 0, i, 9);
+            Nets.telling(x, 3, 0, i, 9);
             x.drop();
         }
         due("eight apart, proof(9, 3)", x.proof(9, 3), 8);
@@ -972,20 +936,20 @@ public final class NearLiarsPromises {
         x.grid(3, 2, 2);
         x.need(2);
         due("believes(5)", x.believes(5), NONE);
-        telling(x, 3, 0, 1, 5);
+        Nets.telling(x, 3, 0, 1, 5);
         due("one of two, believes(5)", x.believes(5), NONE);
-        telling(x, 3, 0, 2, 5);
+        Nets.telling(x, 3, 0, 2, 5);
         due("two of two, believes(5)", x.believes(5), 3);
-        telling(x, 0, 0, 3, 5);
+        Nets.telling(x, 0, 0, 3, 5);
         due("one against, believes(5)", x.believes(5), 3);
-        telling(x, 0, 0, 4, 5);
+        Nets.telling(x, 0, 0, 4, 5);
         due("two against, believes(5)", x.believes(5), NONE);
-        telling(x, 1, 0, 4, 5);
+        Nets.telling(x, 1, 0, 4, 5);
         due("a third value with one, believes(5)", x.believes(5), NONE);
         x.need(1);
         due("two against two, one is enough, believes(5)", x.believes(5), NONE);
         x.need(2);
-        telling(x, 0, 0, 5);
+        Nets.telling(x, 0, 0, 5);
         due("three against two, believes(5)", x.believes(5), 0);
         x.need(3);
         due("three of three, believes(5)", x.believes(5), 0);
@@ -993,7 +957,7 @@ public final class NearLiarsPromises {
         due("three of four, believes(5)", x.believes(5), NONE);
         x.need(1);
         due("believes(4)", x.believes(4), NONE);
-        telling(x, 2, 0, 4);
+        Nets.telling(x, 2, 0, 4);
         due("one of one, believes(4)", x.believes(4), 2);
         due("the DEALER, believes(0)", x.believes(0), NONE);
         int[] bad = {-1, 6, MIN, MAX};
@@ -1011,9 +975,9 @@ public final class NearLiarsPromises {
         x.lie(2, 0);
         x.lie(3, 0);
         x.name(14);
-        telling(x, 1, 0, 1);
-        telling(x, 2, 0, 1);
-        along(x, 0, 3, 5);
+        Nets.telling(x, 1, 0, 1);
+        Nets.telling(x, 2, 0, 1);
+        Nets.along(x, 0, 3, 5);
         x.ticks(6);
         // 0 and 1 have the VALUE, 4 and 5 the lie; 2 and 3 lie.
         int[] want = {6, 11, 2, 6, 6, 2, 2, 1, 2, 3, 3};
